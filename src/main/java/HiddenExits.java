@@ -1212,13 +1212,14 @@ public final class HiddenExits {
         /** Sends a packet; answers the exit by which it leaves. */
         int send(int router) {
             int here = router;
-            for (hops = 0; hops < MAX_HOPS; hops++) {
+            for (int gone = 0; gone < MAX_HOPS; gone++) {
                 int exit = state.firstExit(here);
-                if (exit == NO_EXIT) {
+                if (exit < 0 || exit >= MAX_EXITS) {
                     return NO_EXIT;
                 }
                 int target = plan.place[exit];
                 if (target == here) {
+                    hops = gone;
                     return exit;
                 }
                 here = nextHop(here, target);
