@@ -1121,7 +1121,10 @@ public final class HiddenExits {
 
         /** Puts the routes that a router considers into the offers; answers the set of their exits. */
         int listen(int router) {
-            int own = router >= 0 && router < MAX_ROUTERS ? plan.home[router] & state.up : 0;
+            if (router < 0 || router >= MAX_ROUTERS) {
+                return 0;
+            }
+            int own = plan.home[router] & state.up;
             for (int exit = 0; exit < MAX_EXITS; exit++) {
                 offers[exit] = (own >> exit & 1) == 1 ? routeOf(exit, router, 0) : 0;
             }

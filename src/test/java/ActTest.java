@@ -74,6 +74,11 @@ public final class ActTest {
         Check.due(9, "the weights, mode 0", firstExit(weights, 0, 0), 1);
         Check.due(9, "the weights, mode 1", firstExit(weights, 1, 0), 2);
         Check.due(9, "the weights, mode 2", firstExit(weights, 2, 0), 0);
+        // Exits of three neighbours have nothing to do with each other in mode 0.
+        Check.due(9, "three neighbours, mode 0", firstExit("D1e0013e0112e0211", 0, 0), 0);
+        Check.due(9, "three neighbours, mode 1", firstExit("D1e0013e0112e0211", 1, 0), 2);
+        Check.due(9, "neighbour 2 alone", firstExit("D1e0212e0211", 0, 0), 1);
+        Check.due(9, "neighbour 1 alone", firstExit("D1e0112e0111", 0, 0), 1);
         // A route that loses by its path length does not push out another one by its weight.
         Check.due(9, "a longer path has no say", firstExit("D2l011c01e0011e1012e1020", 0, 0), 0);
         Check.due(9, "a longer path has no say, mode 1", firstExit("D1e0020e0015e0115", 1, 0), 1);
@@ -261,6 +266,16 @@ public final class ActTest {
         Check.due(14, "count(9)", x.count(9), 7);
         Check.due(14, "add(1)", x.add(1), 1);
         choice(14, x, 1, 1);
+        HiddenExits last = Check.domain("D5l341c34e4010e3020");
+        last.step(3);
+        last.step(4);
+        last.add(4);
+        last.step(4);
+        choice(14, last, 4, 0, 0, 4, 0);
+        choice(14, last, 4, 1, 1, 3, 8);
+        last.add(4);
+        choice(14, last, 4, 0, 0, 4, 0);
+        choice(14, last, 4, 1);
         // The second route is chosen by the same rules among the others.
         HiddenExits y = Check.domain("D1e0013e0012e0111");
         y.add(0);

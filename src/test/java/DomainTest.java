@@ -203,6 +203,24 @@ public final class DomainTest {
         Check.due(5, "count(4)", x.count(4), 0);
         Check.due(5, "session(1, 0)", x.session(1, 0), 0);
         Check.due(5, "round()", x.round(), 0);
+        Check.due(5, "count(9)", x.count(9), 1);
+        Check.due(5, "domain()", x.domain(), 0);
+        Check.due(5, "undo() after it", x.undo(), Check.STATE);
+        // The exits are elsewhere now, and have other paths: what was found out about the old ones is forgotten.
+        Check.read(x, "D2l011c01e0010e0020e1030");
+        x.round();
+        x.round();
+        Check.due(5, "choice(1, 0, 0)", x.choice(1, 0, 0), 0);
+        Check.due(5, "mesh(0)", x.mesh(0), 0);
+        Check.read(x, "D2l011c01e1030e0020e1010");
+        Check.due(5, "mesh(0)", x.mesh(0), 2);
+        Check.due(5, "heard(0)", x.heard(0), 2);
+        Check.due(5, "heard(1)", x.heard(1), 5);
+        x.round();
+        Check.due(5, "choice(1, 0, 0)", x.choice(1, 0, 0), 2);
+        Check.read(x, "D2c01e1010");
+        x.round();
+        Check.due(5, "heard(0) without a link", x.heard(0), 0);
     }
 
     private static void links() {

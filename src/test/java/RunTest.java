@@ -248,6 +248,9 @@ public final class RunTest {
         // When it is extended again, it has none until its next step.
         judge(x, "4000 4000 1100 5101", Check.NONE);
         Check.due(25, "choice(0, 1, 0)", x.choice(0, 1, 0), 0);
+        HiddenExits five = Check.domain("D5l341c34e4010");
+        judge(five, "7001 5409 5309", Check.NONE);
+        judge(five, "1400 7001 5400 5309", Check.NONE);
     }
 
     private static void judgeErrors() {
