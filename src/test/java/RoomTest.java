@@ -17,12 +17,14 @@ public final class RoomTest {
             Check.write(x, text);
             x.domain();
             Random random = new Random(text.length());
-            // Once to warm up, so that what the machine itself makes is not counted.
-            sum += callAll(x, random);
-            long before = bean.getThreadAllocatedBytes(self);
-            sum += callAll(x, random);
-            long made = bean.getThreadAllocatedBytes(self) - before;
-            Check.due(0, "few bytes made by calls", made < 4096 ? 0 : made, 0);
+            // The least of some tries, so that what the machine itself makes is not counted.
+            long made = Long.MAX_VALUE;
+            for (int tries = 0; tries < 4; tries++) {
+                long before = bean.getThreadAllocatedBytes(self);
+                sum += callAll(x, random);
+                made = Math.min(made, bean.getThreadAllocatedBytes(self) - before);
+            }
+            Check.due(0, "few bytes made by calls", made < 2048 ? 0 : made, 0);
         }
         long before = bean.getThreadAllocatedBytes(self);
         HiddenExits one = new HiddenExits();
