@@ -1414,8 +1414,11 @@ public final class HiddenExits {
                 other--;
             }
             swap(pivot, other);
-            for (int low = pivot + 1, high = routers - 1; low < high; low++, high--) {
+            // What follows the pivot descends; turned round, it ascends.
+            int high = routers - 1;
+            for (int low = pivot + 1; low < high; low++) {
                 swap(low, high);
+                high--;
             }
             return true;
         }
