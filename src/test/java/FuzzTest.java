@@ -16,17 +16,23 @@ public final class FuzzTest {
         for (int object = 0; object < objects; object++) {
             play(new Random(first + object));
         }
-        for (String figure : new String[] {"cycle", "late cycle", "two rests", "no order rests", "some orders rest",
-            "healed by one", "healed by two", "negative share", "rest of some sets", "one exit may have been down"}) {
-            if (!SEEN.containsKey(figure)) {
-                System.out.println("the calls never met: " + figure);
-                Pair.wrong++;
-            }
+        if (args.length == 0) {
+            mustHaveMet("cycle", "late cycle", "two rests", "no order rests", "some orders rest", "healed by one",
+                "healed by two", "negative share", "rest of some sets", "one exit may have been down");
         }
         System.out.println(SEEN);
         System.out.println(Pair.wrong == 0 ? "all answers are as due" : Pair.wrong + " answers are not as due");
         if (Pair.wrong != 0) {
             System.exit(1);
+        }
+    }
+
+    private static void mustHaveMet(String... figures) {
+        for (String figure : figures) {
+            if (!SEEN.containsKey(figure)) {
+                System.out.println("the calls never met: " + figure);
+                Pair.wrong++;
+            }
         }
     }
 
