@@ -1,7 +1,5 @@
 /** The edges of acts and of undoing them: promises 9 to 16, and what the description says of acts and errors. */
 final class ActEdges {
-    private static final int[] FAR_OFF = {-1, 5, 6, 31, 32, 33, -32, Integer.MIN_VALUE, Integer.MAX_VALUE};
-
     private ActEdges() {
     }
 
@@ -17,27 +15,6 @@ final class ActEdges {
         adding();
         modes();
         undoing();
-    }
-
-    /** For each maker the first number of a router, or of an exit, that there is none of, and some others. */
-    private static void unknown(String name, boolean exits, UnknownCall call) {
-        for (Edge.Maker maker : Makers.ALL) {
-            int first = maker.make().count(exits ? 4 : 1);
-            for (int number : FAR_OFF) {
-                if (number < 0 || number >= first) {
-                    Edge.refused(maker, name + " of " + number, x -> call.on(x, number), Check.UNKNOWN);
-                }
-            }
-            Edge.refused(maker, name + " of " + first, x -> call.on(x, first), Check.UNKNOWN);
-            if (first > 0) {
-                int last = first - 1;
-                Edge.due(name + " of " + last + " is no error", call.on(maker.make(), last) >= 0 ? 1 : 0, 1);
-            }
-        }
-    }
-
-    interface UnknownCall {
-        long on(HiddenExits x, int number);
     }
 
     private static void isAct(String name, Edge.Call call) {
@@ -198,7 +175,7 @@ final class ActEdges {
         Edge.due("step(3), which hears it with fewer marks from the same router", z.step(3), 1);
         Edge.choice(z, 3, 0, 0, 2, 5);
         Edge.sentence(9, "UNKNOWN if there is no such router.");
-        unknown("step", false, HiddenExits::step);
+        Edge.unknown("step", false, HiddenExits::step);
     }
 
     private static void rounds() {
@@ -240,6 +217,15 @@ final class ActEdges {
         Edge.due("link(0, 1, 1)", x.link(0, 1, 1), Check.NONE);
         Edge.due("count(2)", x.count(2), 0);
         Edge.due("count(9)", x.count(9), 2);
+        // The nearest exit is another one at the next step.
+        HiddenExits near = Check.domain(Makers.STAR);
+        Edge.rounds(near, 2);
+        Edge.due("mesh(1)", near.mesh(1), 0);
+        near.setLink(0, 1, 4);
+        Edge.choice(near, 1, 0, 0, 0, 1);
+        Edge.due("mesh(1)", near.mesh(1), 1);
+        near.step(1);
+        Edge.choice(near, 1, 0, 1, 2, 4);
         Edge.sentence(11, "another router");
         Edge.due("setLink(1, 1, 4)", x.setLink(1, 1, 4), Check.OUTSIDE);
         Edge.sentence(11, "the new cost, 1 to 9, or 0 to remove the link");
@@ -255,8 +241,8 @@ final class ActEdges {
         Edge.due("setLink(1, 0, 1) without a link", x.setLink(1, 0, 1), 0);
         Edge.due("setLink(0, 1, 1)", x.setLink(0, 1, 1), 1);
         Edge.sentence(11, "UNKNOWN if there is no such router (either one);");
-        unknown("setLink(n, 0, 1)", false, (y, n) -> n == 0 ? 0 : y.setLink(n, 0, 1));
-        unknown("setLink(0, n, 1)", false, (y, n) -> n == 0 ? 0 : y.setLink(0, n, 1));
+        Edge.unknown("setLink(n, 0, 1)", false, (y, n) -> n == 0 ? 0 : y.setLink(n, 0, 1));
+        Edge.unknown("setLink(0, n, 1)", false, (y, n) -> n == 0 ? 0 : y.setLink(0, n, 1));
         Edge.refused(Makers.BUSY, "setLink(3, 3, 1)", y -> y.setLink(3, 3, 1), Check.UNKNOWN);
         Edge.refused(Makers.BUSY, "setLink(3, 0, 10)", y -> y.setLink(3, 0, 10), Check.UNKNOWN);
         Edge.refused(Makers.BUSY, "setLink(0, -1, -1)", y -> y.setLink(0, -1, -1), Check.UNKNOWN);
@@ -293,7 +279,7 @@ final class ActEdges {
         Edge.due("turn(3)", x.turn(3), 1);
         Edge.due("turn(0)", x.turn(0), 0);
         Edge.sentence(12, "UNKNOWN if there is no such exit.");
-        unknown("turn", true, HiddenExits::turn);
+        Edge.unknown("turn", true, HiddenExits::turn);
     }
 
     private static void weighing() {
@@ -303,6 +289,15 @@ final class ActEdges {
         Edge.due("exit(3, 3)", x.exit(3, 3), 2);
         Edge.due("exit(2, 3)", x.exit(2, 3), 0);
         Edge.due("count(9)", x.count(9), 1);
+        // The lightest exit is another one at the next step.
+        HiddenExits light = Check.domain(Makers.STAR);
+        Edge.rounds(light, 2);
+        Edge.due("mesh(1)", light.mesh(1), 0);
+        light.weigh(0, 1);
+        Edge.choice(light, 1, 0, 0, 0, 1);
+        Edge.due("mesh(1)", light.mesh(1), 1);
+        light.step(1);
+        Edge.choice(light, 1, 0, 1, 2, 4);
         Edge.sentence(13, "the new weight, 0 to 5");
         for (int v = 0; v <= 5; v++) {
             x.weigh(0, v);
@@ -315,8 +310,8 @@ final class ActEdges {
         x.turn(3);
         Edge.due("weigh(3, 1) of one that is down", x.weigh(3, 1), 5);
         Edge.sentence(13, "UNKNOWN if there is no such exit;");
-        unknown("weigh(n, 5)", true, (y, n) -> y.weigh(n, 5));
-        unknown("weigh(n, 0)", true, (y, n) -> y.weigh(n, 0));
+        Edge.unknown("weigh(n, 5)", true, (y, n) -> y.weigh(n, 5));
+        Edge.unknown("weigh(n, 0)", true, (y, n) -> y.weigh(n, 0));
         Edge.refused(Makers.BUSY, "weigh(2, 6)", y -> y.weigh(2, 6), Check.UNKNOWN);
         Edge.refused(Makers.FRESH, "weigh(0, -1)", y -> y.weigh(0, -1), Check.UNKNOWN);
         Edge.sentence(13, "OUTSIDE if v is out of range.");
@@ -344,7 +339,7 @@ final class ActEdges {
         Edge.due("add(4)", x.add(4), 0);
         Edge.due("add(0)", x.add(0), 1);
         Edge.sentence(14, "UNKNOWN if there is no such router.");
-        unknown("add", false, HiddenExits::add);
+        Edge.unknown("add", false, HiddenExits::add);
     }
 
     private static void modes() {
@@ -353,6 +348,15 @@ final class ActEdges {
         x.setMode(2);
         Edge.due("count(7)", x.count(7), 2);
         Edge.due("count(9)", x.count(9), 1);
+        // By the new mode another exit is left at the next step.
+        HiddenExits mode = Check.domain("D1e0013e0012e0111");
+        mode.step(0);
+        Edge.due("mesh(0)", mode.mesh(0), 1);
+        mode.setMode(1);
+        Edge.choice(mode, 0, 0, 1, 0, 0);
+        Edge.due("mesh(0)", mode.mesh(0), 2);
+        mode.step(0);
+        Edge.choice(mode, 0, 0, 2, 0, 0);
         Edge.sentence(15, "the new mode, 0 to 2");
         for (int v = 0; v <= 2; v++) {
             x.setMode(v);

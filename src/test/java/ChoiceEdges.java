@@ -1,7 +1,5 @@
 /** The edges of links, sessions, exits, choices, what routers hear and tell, and packets: promises 6 to 8, 17 to 21. */
 final class ChoiceEdges {
-    private static final int[] FAR_OFF = {-1, 5, 6, 31, 32, 33, -32, Integer.MIN_VALUE, Integer.MAX_VALUE};
-
     private ChoiceEdges() {
     }
 
@@ -15,41 +13,6 @@ final class ChoiceEdges {
         mesh();
         packets();
         circles();
-    }
-
-    interface NumberCall {
-        long on(HiddenExits x, int number);
-    }
-
-    /** There is no such router, or exit: the first number that is too large for each maker, and some others. */
-    private static void unknown(String name, boolean exits, NumberCall call) {
-        for (Edge.Maker maker : Makers.ALL) {
-            int first = maker.make().count(exits ? 4 : 1);
-            for (int number : FAR_OFF) {
-                if (number < 0 || number >= first) {
-                    Edge.refused(maker, name + " of " + number, x -> call.on(x, number), Check.UNKNOWN);
-                }
-            }
-            Edge.refused(maker, name + " of " + first, x -> call.on(x, first), Check.UNKNOWN);
-            if (first > 0) {
-                long answer = call.on(maker.make(), first - 1);
-                Edge.due(name + " of " + (first - 1) + " is no error", answer >= 0 || answer == Check.NONE ? 1 : 0, 1);
-            }
-        }
-    }
-
-    /** The numbers from low to high are no error, and all others are; the call must be possible otherwise. */
-    private static void range(String name, int low, int high, NumberCall call) {
-        for (Edge.Maker maker : new Edge.Maker[] {Makers.BUSY, Makers.FULL}) {
-            for (int number = low; number <= high; number++) {
-                long answer = call.on(maker.make(), number);
-                Edge.due(name + " of " + number + " is no error", answer >= 0 || answer == Check.NONE ? 1 : 0, 1);
-            }
-            int[] outside = {low - 1, high + 1, Integer.MIN_VALUE, Integer.MAX_VALUE};
-            for (int number : outside) {
-                Edge.refused(maker, name + " of " + number, x -> call.on(x, number), Check.OUTSIDE);
-            }
-        }
     }
 
     private static void links() {
@@ -73,12 +36,12 @@ final class ChoiceEdges {
         Edge.sentence(6, "UNKNOWN if there is no such router (either one);");
         for (int what = 0; what <= 2; what++) {
             int w = what;
-            unknown("link(n, 0, " + w + ")", false, (z, n) -> w == 2 && n >= 0 && n < z.count(1) ? 0 : z.link(n, 0, w));
-            unknown("link(0, n, " + w + ")", false, (z, n) -> w == 2 && n >= 0 && n < z.count(1) ? 0 : z.link(0, n, w));
+            Edge.unknown("link(n, 0, " + w + ")", false, (z, n) -> w == 2 && n >= 0 && n < z.count(1) ? 0 : z.link(n, 0, w));
+            Edge.unknown("link(0, n, " + w + ")", false, (z, n) -> w == 2 && n >= 0 && n < z.count(1) ? 0 : z.link(0, n, w));
         }
         Edge.sentence(6, "OUTSIDE if what is neither 0 nor 1.");
-        range("link(0, 1, n)", 0, 1, (z, n) -> z.link(0, 1, n));
-        range("link(2, 2, n)", 0, 1, (z, n) -> z.link(2, 2, n));
+        Edge.range("link(0, 1, n)", 0, 1, (z, n) -> z.link(0, 1, n));
+        Edge.range("link(2, 2, n)", 0, 1, (z, n) -> z.link(2, 2, n));
     }
 
     private static void sessions() {
@@ -93,8 +56,8 @@ final class ChoiceEdges {
             }
         }
         Edge.sentence(7, "UNKNOWN if there is no such router (either one).");
-        unknown("session(n, 0)", false, (y, n) -> y.session(n, 0));
-        unknown("session(0, n)", false, (y, n) -> y.session(0, n));
+        Edge.unknown("session(n, 0)", false, (y, n) -> y.session(n, 0));
+        Edge.unknown("session(0, n)", false, (y, n) -> y.session(0, n));
         Edge.refused(Makers.BUSY, "session(3, 3)", y -> y.session(3, 3), Check.UNKNOWN);
     }
 
@@ -111,12 +74,12 @@ final class ChoiceEdges {
         Edge.due("exit(3, 3)", x.exit(3, 3), 0);
         Edge.due("exit(3, 2)", x.exit(3, 2), 3);
         Edge.sentence(8, "UNKNOWN if there is no such exit;");
-        unknown("exit(n, 0)", true, (y, n) -> y.exit(n, 0));
-        unknown("exit(n, 4)", true, (y, n) -> y.exit(n, 4));
+        Edge.unknown("exit(n, 0)", true, (y, n) -> y.exit(n, 0));
+        Edge.unknown("exit(n, 4)", true, (y, n) -> y.exit(n, 4));
         Edge.refused(Makers.FRESH, "exit(0, 5)", y -> y.exit(0, 5), Check.UNKNOWN);
         Edge.refused(Makers.BUSY, "exit(2, -1)", y -> y.exit(2, -1), Check.UNKNOWN);
         Edge.sentence(8, "OUTSIDE if what is out of range.");
-        range("exit(1, n)", 0, 4, (y, n) -> y.exit(1, n));
+        Edge.range("exit(1, n)", 0, 4, (y, n) -> y.exit(1, n));
     }
 
     private static void choices() {
@@ -135,14 +98,14 @@ final class ChoiceEdges {
         Edge.choice(new HiddenExits(), 0, 0);
         Edge.choice(new HiddenExits(), 0, 1);
         Edge.sentence(17, "UNKNOWN if there is no such router;");
-        unknown("choice(n, 0, 0)", false, (y, n) -> y.choice(n, 0, 0));
-        unknown("choice(n, 1, 2)", false, (y, n) -> y.choice(n, 1, 2));
+        Edge.unknown("choice(n, 0, 0)", false, (y, n) -> y.choice(n, 0, 0));
+        Edge.unknown("choice(n, 1, 2)", false, (y, n) -> y.choice(n, 1, 2));
         Edge.refused(Makers.BUSY, "choice(3, 2, 3)", y -> y.choice(3, 2, 3), Check.UNKNOWN);
         Edge.refused(Makers.FRESH, "choice(-1, 0, -1)", y -> y.choice(-1, 0, -1), Check.UNKNOWN);
         Edge.sentence(17, "OUTSIDE if second or what is out of range.");
-        range("choice(1, n, 0)", 0, 1, (y, n) -> y.choice(1, n, 0));
-        range("choice(1, 0, n)", 0, 2, (y, n) -> y.choice(1, 0, n));
-        range("choice(0, 1, n), without a route", 0, 2, (y, n) -> y.choice(0, 1, n));
+        Edge.range("choice(1, n, 0)", 0, 1, (y, n) -> y.choice(1, n, 0));
+        Edge.range("choice(1, 0, n)", 0, 2, (y, n) -> y.choice(1, 0, n));
+        Edge.range("choice(0, 1, n), without a route", 0, 2, (y, n) -> y.choice(0, 1, n));
         Edge.refused(Makers.FRESH, "choice(0, 2, 0)", y -> y.choice(0, 2, 0), Check.OUTSIDE);
     }
 
@@ -167,7 +130,7 @@ final class ChoiceEdges {
         Edge.due("heard(1) of all four", y.heard(1), 15);
         Edge.due("heard(0) without exits", new HiddenExits().heard(0), 0);
         Edge.sentence(18, "UNKNOWN if there is no such router.");
-        unknown("heard", false, HiddenExits::heard);
+        Edge.unknown("heard", false, HiddenExits::heard);
     }
 
     private static void telling() {
@@ -196,8 +159,8 @@ final class ChoiceEdges {
         own.step(4);
         Edge.due("tells(4, 4) of an own exit", own.tells(4, 4), 0);
         Edge.sentence(19, "UNKNOWN if there is no such router (either one).");
-        unknown("tells(n, 0)", false, (y, n) -> y.tells(n, 0));
-        unknown("tells(0, n)", false, (y, n) -> y.tells(0, n));
+        Edge.unknown("tells(n, 0)", false, (y, n) -> y.tells(n, 0));
+        Edge.unknown("tells(0, n)", false, (y, n) -> y.tells(0, n));
         Edge.refused(Makers.BUSY, "tells(3, 3)", y -> y.tells(3, 3), Check.UNKNOWN);
     }
 
@@ -235,7 +198,7 @@ final class ChoiceEdges {
         down.turn(0);
         Edge.due("mesh(0) when all are down", down.mesh(0), Check.NONE);
         Edge.sentence(20, "UNKNOWN if there is no such router.");
-        unknown("mesh", false, HiddenExits::mesh);
+        Edge.unknown("mesh", false, HiddenExits::mesh);
     }
 
     private static void leaves(HiddenExits x, int router, int exit, int links) {
@@ -283,11 +246,11 @@ final class ChoiceEdges {
             leaves(line, router, 3, 4 - router);
         }
         Edge.sentence(21, "UNKNOWN if there is no such router;");
-        unknown("leaves(n, 0)", false, (z, n) -> z.leaves(n, 0));
-        unknown("leaves(n, 1)", false, (z, n) -> z.leaves(n, 1));
+        Edge.unknown("leaves(n, 0)", false, (z, n) -> z.leaves(n, 0));
+        Edge.unknown("leaves(n, 1)", false, (z, n) -> z.leaves(n, 1));
         Edge.refused(Makers.BUSY, "leaves(3, 2)", z -> z.leaves(3, 2), Check.UNKNOWN);
         Edge.sentence(21, "OUTSIDE if what is neither 0 nor 1.");
-        range("leaves(1, n)", 0, 1, (z, n) -> z.leaves(1, n));
+        Edge.range("leaves(1, n)", 0, 1, (z, n) -> z.leaves(1, n));
         Edge.refused(Makers.FRESH, "leaves(0, 2) without a route", z -> z.leaves(0, 2), Check.OUTSIDE);
         Edge.refused(Makers.FRESH, "leaves(0, -1) without a route", z -> z.leaves(0, -1), Check.OUTSIDE);
     }

@@ -16,6 +16,12 @@ final class Edge {
         long on(HiddenExits x);
     }
 
+    /** A call on an object with a number that is inside or outside of what there is. */
+    interface NumberCall {
+        long on(HiddenExits x, int number);
+    }
+
+    private static final int[] FAR_OFF = {-1, 5, 6, 31, 32, 33, -32, Integer.MIN_VALUE, Integer.MAX_VALUE};
     static final Map<Integer, List<String>> QUOTED = new TreeMap<>();
     private static final Map<Maker, String> SEEN = new HashMap<>();
     private static int promise;
@@ -60,6 +66,39 @@ final class Edge {
             return x;
         });
         due(name + " leaves all as it was", after.equals(before) ? 1 : 0, 1);
+    }
+
+    private static void noError(String name, long answer) {
+        due(name + " is no error", answer >= 0 || answer == Check.NONE ? 1 : 0, 1);
+    }
+
+    /** The last router, or exit, is no error; one behind it is, and so are others, and they leave all as it was. */
+    static void unknown(String name, boolean exits, NumberCall call) {
+        for (Maker maker : Makers.ALL) {
+            int first = maker.make().count(exits ? 4 : 1);
+            for (int number : FAR_OFF) {
+                if (number < 0 || number >= first) {
+                    refused(maker, name + " of " + number, x -> call.on(x, number), Check.UNKNOWN);
+                }
+            }
+            refused(maker, name + " of " + first, x -> call.on(x, first), Check.UNKNOWN);
+            if (first > 0) {
+                noError(name + " of " + (first - 1), call.on(maker.make(), first - 1));
+            }
+        }
+    }
+
+    /** The numbers from low to high are no error, and those outside are, and they leave all as it was. */
+    static void range(String name, int low, int high, NumberCall call) {
+        for (Maker maker : new Maker[] {Makers.BUSY, Makers.FULL}) {
+            for (int number = low; number <= high; number++) {
+                noError(name + " of " + number, call.on(maker.make(), number));
+            }
+            int[] outside = {low - 1, high + 1, Integer.MIN_VALUE, Integer.MAX_VALUE};
+            for (int number : outside) {
+                refused(maker, name + " of " + number, x -> call.on(x, number), Check.OUTSIDE);
+            }
+        }
     }
 
     /** The figures of an object, by the numbers of count. */

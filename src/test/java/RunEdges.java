@@ -97,6 +97,12 @@ final class RunEdges {
         Edge.due("run(1, 2)", Check.domain(Makers.RESTLESS).run(1, 2), 4);
         Edge.due("run(0, 2) in the cycle", late.run(0, 2), 4);
         Edge.due("run(1, 2) of a rest", Check.domain(line).run(1, 2), 0);
+        HiddenExits both = Check.domain(Makers.DISAGREE);
+        Edge.rounds(both, 2);
+        both.step(0);
+        Edge.due("run(1, 2) of a cycle", both.run(1, 2), 2);
+        Edge.due("run(0, 2) of a rest behind it", both.run(0, 2), 0);
+        Edge.due("run(1, 2) of a cycle behind that", both.run(1, 2), 2);
         Edge.due("run(1, 3) of a rest", Check.domain(line).run(1, 3), 0);
     }
 
@@ -351,6 +357,12 @@ final class RunEdges {
         trueFor(x, "3", "00", "01");
         trueFor(x, "31", "5", "0");
         trueFor(x, "310", "", "012345");
+        judge(x, "1000 1200 1100 5100", Check.NONE);
+        HiddenExits told = Check.domain(Makers.STAR);
+        told.round();
+        judge(told, "3001 1100 5101", Check.NONE);
+        judge(told, "3001 3000 1100 5100", Check.NONE);
+        judge(told, "1100 3001 5100", Check.NONE);
         Edge.sentence(25, "4 r 0 0: router r becomes extended, or not extended any more, as by the method add.");
         trueFor(x, "4", "00", "012");
         trueFor(x, "42", "0", "0");
@@ -392,6 +404,10 @@ final class RunEdges {
         trueFor(cycle, "7", "00", "0");
         Edge.rounds(cycle, 2);
         judge(cycle, "7000 1000 7001 5001", Check.NONE);
+        // After the statement the choices are as at this moment, not those of the rest.
+        judge(x, "7001 5009 5109 5209", Check.NONE);
+        judge(x, "1200 7001 5109 5201", Check.NONE);
+        judge(Check.domain("D5l341c34e4010"), "1400 7001 5400 5309", Check.NONE);
     }
 
     private static void judging() {

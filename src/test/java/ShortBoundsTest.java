@@ -20,11 +20,9 @@ public final class ShortBoundsTest {
     public static void main(String[] args) throws Exception {
         for (int[] bounds : BOUNDS) {
             Path place = Files.createTempDirectory("short");
-            try {
-                play(place, bounds[0], bounds[1]);
-            } finally {
-                delete(place.toFile());
-            }
+            // Not at the end of this loop, as a failing test ends the machine.
+            Runtime.getRuntime().addShutdownHook(new Thread(() -> delete(place.toFile())));
+            play(place, bounds[0], bounds[1]);
         }
     }
 

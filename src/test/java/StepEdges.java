@@ -269,6 +269,9 @@ final class StepEdges {
         // One that is not left after rule 1 has no say, though it is lighter.
         Edge.due("a lighter one with a longer path", firstExit("D1e0015e0020", 0, 0), 0);
         Edge.due("a lighter one with a longer path in mode 1", firstExit("D1e0115e0014e0020", 1, 0), 1);
+        Edge.due("three neighbours", firstExit("D1e0015e0114e0213", 0, 0), 0);
+        Edge.due("three neighbours in mode 1", firstExit("D1e0015e0114e0213", 1, 0), 2);
+        Edge.due("three neighbours, one of them twice", firstExit("D1e0015e0114e0213e0010", 0, 0), 1);
         // One that is pushed out pushes others out, too.
         Edge.due("three with the same neighbour", firstExit("D1e0013e0012e0011", 0, 0), 2);
         // The weight comes before the own exit and the distance.

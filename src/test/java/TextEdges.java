@@ -397,6 +397,18 @@ final class TextEdges {
         Edge.due("exit(0, 0)", x.exit(0, 0), 1);
         Edge.due("exit(1, 0)", x.exit(1, 0), Check.UNKNOWN);
         Edge.due("heard(2)", x.heard(2), Check.UNKNOWN);
+        Edge.due("heard(0), which had the first exit before", x.heard(0), 0);
+        Edge.due("heard(1)", x.heard(1), 1);
+        // The exits have other places, paths and weights; what has been found out about the old ones is forgotten.
+        Check.read(x, "D2l011c01e0010e1020");
+        Edge.rounds(x, 2);
+        Edge.due("mesh(0)", x.mesh(0), 0);
+        Edge.due("mesh(1)", x.mesh(1), 0);
+        Check.read(x, "D2l011c01e0020e1010");
+        Edge.due("mesh(0)", x.mesh(0), 1);
+        Edge.due("mesh(1)", x.mesh(1), 1);
+        Edge.rounds(x, 2);
+        Edge.choice(x, 0, 0, 1, 1, 2);
         Check.read(x, "D1");
         Edge.figures(x, 2, 1, 0, 0, 0, 0);
         Edge.due("mesh(0) when there are no exits any more", x.mesh(0), Check.NONE);
