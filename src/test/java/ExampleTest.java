@@ -1,4 +1,6 @@
+import java.io.IOException;
 import java.lang.reflect.Method;
+import java.nio.file.Files;
 import java.util.regex.Matcher;
 import java.util.regex.Pattern;
 
@@ -16,9 +18,11 @@ public final class ExampleTest {
             + "judge(1, 5009L) = -9; undo() = 1; lost(3, true) = 1."};
     private static final Pattern CALL = Pattern.compile("(\\w+)\\(([^)]*)\\) = (-?\\d+)");
 
-    public static void main(String[] args) throws ReflectiveOperationException {
+    public static void main(String[] args) throws IOException, ReflectiveOperationException {
+        String document = Sentences.plain(Files.readString(Sentences.DOCUMENT));
         int calls = 0;
         for (String example : EXAMPLES) {
+            Check.due(0, "the document has '" + example + "'", document.contains(example) ? 1 : 0, 1);
             HiddenExits x = new HiddenExits();
             Matcher call = CALL.matcher(example);
             while (call.find()) {

@@ -8,7 +8,7 @@ import java.util.TreeMap;
 
 /** The document, cut into sentences: those of the promises by number, and those before them as number 0. */
 final class Sentences {
-    private static final Path DOCUMENT = Path.of("../shared/DOC.md");
+    static final Path DOCUMENT = Path.of("../shared/DOC.md");
 
     private Sentences() {
     }
