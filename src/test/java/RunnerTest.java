@@ -33,11 +33,12 @@ public final class RunnerTest {
         for (Callable<String> each : cases()) {
             faults.add(threads.submit(each));
         }
+        // Before the answers are asked for: threads that wait for more would keep the test from ending if one throws.
+        threads.shutdown();
         for (Future<String> fault : faults) {
             String text = fault.get();
             Check.due(0, text.isEmpty() ? "the command ends as it must" : text, text.isEmpty() ? 1 : 0, 1);
         }
-        threads.shutdown();
         Check.finish();
     }
 
